@@ -699,6 +699,8 @@ public final class Promises {
         valley("head 10;span 10 begins 0;reach a loses 1 in 2 carries 4;", 0);
         fraction("without FIELDS at the head", x.runsOut(NONE), 100, 1);
         fraction("not at a REACH", x.runsOut(0), 0, 1);
+        valley("head 10;reach a loses 0 in 1;field x on a shares 1 needs 0;", 1);
+        fraction("one FIELD takes it all", x.runsOut(NONE), 0, 1);
 
         begin("33 waterOf");
         three();
@@ -743,6 +745,12 @@ public final class Promises {
         gives("spare", x.spare(0), 2);
         gives("spare", x.spare(1), 7);
         gives("fewest", x.fewest(), 8);
+        valley("head 1;span 8 begins 0;reach a loses 0 in 1;field x on a shares 1 needs 1;"
+                + "field y on a shares 1 needs 8;", 2);
+        gives("lacking", x.lacking(1), 4);
+        gives("spare", x.spare(0), 3);
+        refused("one too few", x.fewest(), 6);
+        three();
         x.head(999);
         gives("none is SHORT", x.fewest(), 0);
         refused("none is SHORT", x.neediest(), 6);
@@ -787,6 +795,9 @@ public final class Promises {
         x.close(0, true);
         refused("none brings more", x.mending(), 6);
         due("top", x.top(), 30, "the FRACTION stays");
+        valley("head 1;span 1 begins 0;reach a loses 1 in 2;field x on a shares 1 needs 0;", 1);
+        gives("the least that is more", x.mending(), 0);
+        due("bottom", x.bottom(), 2, "half a litre");
 
         begin("40 off");
         valley("span 10 begins 0;reach a loses 0 in 1;field x on a shares 1 needs 0;field y on a shares 1 needs 0;"
@@ -855,6 +866,9 @@ public final class Promises {
         due("top", x.top(), 390, "the FRACTION stays");
         valley("span 10 begins 0;reach a loses 0 in 1;reach b of a loses 0 in 1;field x on b shares 1 needs 0;", 1);
         gives("of several the first", x.shadow(), 0);
+        valley("head 1;span 1 begins 0;reach a loses 0 in 1;field x on a shares 1 needs 0;", 1);
+        gives("the least that costs any", x.shadow(), 0);
+        due("top", x.top(), 1, "a litre");
 
         begin("45 bestSwap");
         valley("head 2;span 9 begins 0;reach a loses 0 in 1 shut 0 to 3;reach b loses 0 in 1;"
@@ -870,6 +884,10 @@ public final class Promises {
         x.lend(0, 1, 1);
         refused("something is LENT", x.bestSwap(0), 7);
         refused("a number ahead of it", x.bestSwap(2), 1);
+        valley("head 1;span 2 begins 0;reach a loses 0 in 1 shut 0 to 1;reach b loses 0 in 1;"
+                + "field x on a shares 1 needs 0;field y on b shares 1 needs 0;", 2);
+        gives("the least that is more", x.bestSwap(1), 1);
+        due("top", x.top(), 1, "a litre");
 
         begin("46, 47 debts, balance");
         three();
@@ -913,6 +931,10 @@ public final class Promises {
         x.write(0, 5, -2);
         denied("below -1", x.mean(0, 6), 5);
         refused("below -1", x.gaps(0, 6), 5);
+        x.tray(2, 2, 2);
+        x.write(2, 0, -2);
+        denied("the first one, too", x.mean(2, 2), 5);
+        refused("the first one, too", x.gaps(2, 1), 5);
         denied("too few, ahead of 5", x.mean(0, 7), 3);
         refused("too few, ahead of 5", x.gaps(0, 7), 3);
         int[][] bad = {{0, 0}, {0, 61}, {-1, 1}, {4, 1}, {3, 0}, {0, -1}, {MAX, MIN}};
@@ -1001,6 +1023,8 @@ public final class Promises {
         badDays(thirty + "stop", 6, 150);
         badDays(thirty + "end;", 2, 150);
         badDays("loop 1;" + times(29, "pass;") + "when;", 6, 152);
+        days(times(30, "loop1;end;"), 30);
+        days("when owes a<999;end;", 1);
         String deep = "loop 2;loop 2;when shut up;";
         days(deep + "end;end;end;", 3);
         badDays(deep + "when", 7, 27);
@@ -1087,6 +1111,12 @@ public final class Promises {
         gives("what it can: 10 of 11", x.owed(0, 1), 1);
 
         three();
+        days("lend a b 1;pass;pay b a;", 3);
+        gives("live", x.live(0), 3);
+        gives("MISSED", x.lived(1), 0);
+        gives("one minute PAID back", x.debts(), 0);
+
+        three();
         days("loop 99;pass;end;loop 2;pass;end;", 4);
         gives("live", x.live(0), 103);
         gives("SPANS", x.lived(0), 99);
@@ -1146,6 +1176,13 @@ public final class Promises {
         }
         int divisor = reached == 5 ? 5 : reached % 2 == 0 && reached > 0 ? 2 : 1;
         fraction("odds", x.odds(0, 90, 100, 10), reached / divisor, 10 / divisor);
+        for (int seed = 0; seed < 40; seed++) {
+            int of = 0;
+            for (int k = seed; k < seed + 2; k++) {
+                of += (k * 2753 + 10559) % 65536 / 8 % 16 < 8 ? 0 : 1;
+            }
+            fraction("odds of " + seed, x.odds(0, 90, seed, 2), of == 2 ? 1 : of, of == 1 ? 2 : 1);
+        }
         fraction("none", x.odds(0, 91, 100, 10), 0, 1);
         fraction("all", x.odds(0, 45, 100, 10), 1, 1);
         gives("all stays", x.told(0), 12);
@@ -1208,6 +1245,18 @@ public final class Promises {
         days("shut up;", 1);
         refused("gone", x.back(), 6);
         gives("again", x.mark(), 1);
+        x.back();
+
+        three();
+        x.lend(0, 1, 2);
+        days("when owes b>1;lend c a 3;end;when rich a=0;flow 5;end;when shut up;flow 6;end;", 6);
+        x.mark();
+        days("pass;when shut low;pass;end;when owes a<9;pass;end;when rich b<1;pass;end;when shut up;pass;end;", 9);
+        x.live(0);
+        x.back();
+        gives("DAYS with tests", x.live(0), 5);
+        gives("HEAD", x.told(0), 5);
+        gives("OWED", x.owed(0, 2), 3);
     }
 
     public static void main(String[] args) {
