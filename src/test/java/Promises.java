@@ -1024,6 +1024,7 @@ public final class Promises {
         badDays(thirty + "end;", 2, 150);
         badDays("loop 1;" + times(29, "pass;") + "when;", 6, 152);
         days(times(30, "loop1;end;"), 30);
+        gives("each of them", x.live(0), 30);
         days("when owes a<999;end;", 1);
         String deep = "loop 2;loop 2;when shut up;";
         days(deep + "end;end;end;", 3);
