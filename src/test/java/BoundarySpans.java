@@ -58,6 +58,19 @@ public final class BoundarySpans extends Checks {
         due("0", x.status(), 0);
         due("asked again", x.status(), 0);
 
+        says("5", "0 else");
+        three();
+        days("pass;", 1);
+        x.tray(0, 0, 3);
+        x.tray(1, 0, 3);
+        x.live(0);
+        x.mark();
+        for (int which = 0; which < CALLS; which++) {
+            refused("told", x.told(-1), 1);
+            call(which);
+            due("STATUS of call " + which, x.status(), 0);
+        }
+
         says("4", "FRACTIONS are told by top() and bottom() without a common divisor, the bottom above 0; 0 is 0 by 1");
         x.tray(0, 3, 60);
         readings(6, 10, 0, 0, 4, 4);
@@ -70,6 +83,63 @@ public final class BoundarySpans extends Checks {
         fraction("0", x.mean(1, 60), 0, 1);
         denied("another STATUS", x.mean(2, 60), 2);
         told("the FRACTION told latest", 0, 1);
+    }
+
+    private static final int CALLS = 49;
+
+    /** Each call that has a STATUS, such that it can be in the VALLEY of three FIELDS. */
+    private static void call(int which) {
+        switch (which) {
+            case 0 -> x.tray(2, 3, 60);
+            case 1 -> x.write(0, 2, 5);
+            case 2 -> x.read(0, 2);
+            case 3 -> x.pour(0, 0, 1, 0, 3);
+            case 4 -> x.told(8);
+            case 5 -> x.reach(1, 0);
+            case 6 -> x.field(2, 0);
+            case 7 -> x.below(1);
+            case 8 -> x.order(2);
+            case 9 -> x.turn(2, 1);
+            case 10 -> x.swap(0, 2);
+            case 11 -> x.owed(0, 2);
+            case 12 -> x.slots();
+            case 13 -> x.slot(2, 2);
+            case 14 -> x.whose(59);
+            case 15 -> x.minutes(2, 1);
+            case 16 -> x.close(1, false);
+            case 17 -> x.head(12);
+            case 18 -> x.lets(1, 59);
+            case 19 -> x.rate(2);
+            case 20 -> x.water(2);
+            case 21 -> x.lost(1);
+            case 22 -> x.runsOut(NONE);
+            case 23 -> x.runsOut(1);
+            case 24 -> x.waterOf(NONE);
+            case 25 -> x.lacking(2);
+            case 26 -> x.spare(2);
+            case 27 -> x.neediest();
+            case 28 -> x.richest(true);
+            case 29 -> x.mending();
+            case 30 -> x.off();
+            case 31 -> x.driest();
+            case 32 -> x.waits(0, 0);
+            case 33 -> x.headFor(2);
+            case 34 -> x.shadow();
+            case 35 -> x.debts();
+            case 36 -> x.balance(1);
+            case 37 -> x.mean(0, 3);
+            case 38 -> x.gaps(0, 3);
+            case 39 -> x.suspects(0);
+            case 40 -> x.lend(2, 0, 1);
+            case 41 -> x.pass();
+            case 42 -> x.account(2);
+            case 43 -> x.live(9);
+            case 44 -> x.lived(3);
+            case 45 -> x.odds(2, 0, 0, 10);
+            case 46 -> x.mark();
+            case 47 -> x.back();
+            default -> x.valley(0);
+        }
     }
 
     private static void readings(long... values) {
@@ -314,6 +384,14 @@ public final class BoundarySpans extends Checks {
         leaks(3, 0, 0, 0);
         leaks(3, 0, -1, 0);
         leaks(0, 1, 0, 0);
+        says("3", "less than their RATE rounded down");
+        valley("head 1;reach a loses 0 in 1;field x on a shares 1 needs 0;", 1);
+        x.tray(0, 3, 1);
+        leaks(1, 0);
+        leaks(0, 1);
+        x.head(999);
+        leaks(1, 998);
+        leaks(0, 999);
 
         says("50", "5: below -1, above 999; asked in this order");
         three();
@@ -544,6 +622,21 @@ public final class BoundarySpans extends Checks {
         x.close(0, true);
         test("shut a", true);
         test("shut b", false);
+
+        says("4", "or when TEST ; {STEP} end ;");
+        three();
+        days("when owes a=0;flow 1;end;shut up;when owes a=1;flow 2;end;shut low;", 6);
+        gives("what stands behind an end is done, too", x.live(0), 5);
+        gives("HEAD", x.told(0), 1);
+        gives("CLOSED", x.told(7), 3);
+        days("loop 5;stop;end;", 2);
+        gives("a loop that is left", x.live(0), 2);
+        days("when shut up;flow 7;end;", 2);
+        gives("a when is done once", x.live(0), 2);
+        days("loop 99;when shut up;loop 99;flow 8;end;end;end;", 4);
+        gives("a loop that is cut", x.live(0), 300);
+        days("when shut up;when shut low;when shut up;flow 9;end;end;end;", 4);
+        gives("each when is done once", x.live(0), 4);
     }
 
     private static void compared(String one, int value) {
@@ -567,6 +660,18 @@ public final class BoundarySpans extends Checks {
     }
 
     private static void steps() {
+        says("4", "shut, open: a REACH is CLOSED, or no more");
+        three();
+        days("shut low;", 1);
+        lived(1, 0, 0, 0, 0);
+        gives("CLOSED", x.told(7), 2);
+        days("shut up;open low;", 2);
+        lived(2, 0, 0, 0, 0);
+        gives("CLOSED", x.told(7), 1);
+        days("open up;", 1);
+        lived(1, 0, 0, 0, 0);
+        gives("none", x.told(7), 0);
+
         says("4", "What can't be is left out, and MISSED");
         three();
         days("swap a a;lend b b 1;pay c c;pay a b;", 4);
@@ -596,6 +701,14 @@ public final class BoundarySpans extends Checks {
         days("lend c a 30;pass;pay a c;pay a c;", 4);
         lived(4, 1, 1, 0, 0);
         gives("what it can", x.owed(0, 2), 20);
+        three();
+        days("lend c a 30;pass;lend a b 4;pay a c;", 4);
+        lived(4, 1, 0, 0, 0);
+        gives("what is left of its own", x.owed(0, 2), 24);
+        three();
+        days("lend a b 1;pass;pay b a;", 3);
+        lived(3, 1, 0, 0, 0);
+        gives("one minute", x.owed(1, 0), 0);
         three();
         days("lend a b 4;pass;loop 12;lend b c 1;end;pay b a;", 5);
         lived(16, 1, 1, 0, 0);
@@ -708,6 +821,14 @@ public final class BoundarySpans extends Checks {
         days("", 0);
         gives("DAYS of no STEPS", x.live(0), 0);
 
+        says("54", "what 0: SPANS that passed");
+        x.pass();
+        x.pass();
+        days("pass;", 1);
+        x.live(0);
+        gives("of that live() alone", x.lived(0), 1);
+        gives("SPAN", x.told(6), 3);
+
         says("54", "Of live() latest with STATUS 0");
         int[] whats = {-1, 4, MIN, MAX};
         for (int what : whats) {
@@ -752,6 +873,21 @@ public final class BoundarySpans extends Checks {
         valley("head 909;span 11 begins 0;reach r loses 0 in 1;field x on r shares 1 needs 0;", 1);
         days("pass;", 1);
         fraction("9,999 of 9,999", x.odds(0, 9999, 0, 1), 1, 1);
+
+        int[] firsts = {0, 1, 50, 9990};
+        for (int first : firsts) {
+            for (int n = 1; n <= 10; n += 3) {
+                says("55", "in how many of so many seeds (1 to 10) from one on");
+                valley("head 2;span 1 begins 0;reach r loses 0 in 1;field x on r shares 1 needs 0;", 1);
+                days("dry 8;pass;", 2);
+                int reached = 0;
+                for (int seed = first; seed < first + n; seed++) {
+                    reached += drawOf(seed, 1) < 8 ? 0 : 1;
+                }
+                did("odds", x.odds(0, 2, first, n));
+                due("so many of " + n, x.top() * n, reached * x.bottom());
+            }
+        }
 
         says("55", "1: the last above 9,999, too; 6: no DAYS");
         three();
@@ -857,6 +993,28 @@ public final class BoundarySpans extends Checks {
         days("shut up;open low;", 2);
         badDays("shut upper;", 3, 5);
 
+        says("4", "all is taken back to the latest MARK");
+        richState();
+        x.mark();
+        otherState();
+        x.mark();
+        valley("", 0);
+        gives("back to the other one", x.back(), 1);
+        gives("FIELDS", x.told(5), 2);
+        gives("OWED", x.owed(0, 1), 6);
+        gives("back", x.back(), 0);
+        richStateIs();
+        says("4", "all is taken back to the latest MARK");
+        x.mark();
+        richState();
+        x.mark();
+        otherState();
+        gives("back", x.back(), 1);
+        richStateIs();
+        gives("back to the first", x.back(), 0);
+        gives("a new object's VALLEY", x.told(5), 0);
+        gives("HEAD", x.told(0), 100);
+
         says("4", "which is gone then");
         x.mark();
         three();
@@ -870,6 +1028,71 @@ public final class BoundarySpans extends Checks {
         gives("what comes behind a MARK leaves it", x.back(), 0);
         gives("LOANS", x.told(8), 0);
         gives("OWED", x.owed(1, 0), 0);
+    }
+
+    private static void richState() {
+        valley("head 24;span 30 begins 1430;reach up loses 1 in 4 shut 5 to 9;reach low of up loses 1 in 3 carries 9;"
+                + "owner o;field a on low shares 1 needs 5 by o;field b on up shares 2 needs 6;", 2);
+        x.swap(0, 1);
+        x.pass();
+        x.lend(1, 0, 3);
+        x.lend(0, 1, 1);
+        x.lend(1, 0, 2);
+        days("shut low;when owes a>3;swap b a;lend b a 4;end;when rich a<2;flow 9;end;loop 2;pay a b;end;", 8);
+    }
+
+    /** As unlike that as can be. */
+    private static void otherState() {
+        valley("head 3;span 9 begins 7;owner p;owner q;reach r loses 0 in 1;reach s loses 2 in 5 shut 1 to 2;"
+                + "reach t of s loses 3 in 7;field y on r shares 4 needs 1 by q;field z on t shares 5 needs 2 by p;", 2);
+        x.close(2, true);
+        x.pass();
+        x.pass();
+        x.lend(1, 0, 4);
+        x.lend(1, 0, 1);
+        x.pass();
+        x.lend(1, 0, 1);
+        x.head(44);
+        days("loop 3;when rich y>5;open t;end;end;when shut r;pay y z;lend z y 7;end;flow 7;swap y z;", 8);
+    }
+
+    private static void richStateIs() {
+        int[] told = {24, 30, 1430, 2, 1, 2, 1, 0, 3};
+        for (int what = 0; what < told.length; what++) {
+            gives("told " + what, x.told(what), told[what]);
+        }
+        int[][] reaches = {{NONE, 1, 4, NONE, 5, 9}, {0, 1, 3, 9, NONE, NONE}};
+        int[][] fields = {{1, 1, 5, 0}, {0, 2, 6, NONE}};
+        for (int k = 0; k < 2; k++) {
+            for (int what = 0; what < 6; what++) {
+                due("reach " + k + "," + what, x.reach(k, what), reaches[k][what]);
+            }
+            for (int what = 0; what < 4; what++) {
+                due("field " + k + "," + what, x.field(k, what), fields[k][what]);
+            }
+        }
+        gives("ORDER", x.order(0), 0);
+        int[][] slots = {{0, 0, 9}, {1, 9, 1}, {1, 10, 15}, {0, 25, 2}, {0, 27, 3}};
+        gives("SLOTS", x.slots(), slots.length);
+        for (int k = 0; k < slots.length; k++) {
+            for (int what = 0; what < 3; what++) {
+                gives("slot " + k + "," + what, x.slot(k, what), slots[k][what]);
+            }
+        }
+        gives("OWED", x.owed(0, 1), 4);
+        gives("OWED", x.owed(1, 0), 0);
+        fraction("RATE", x.rate(0), 6, 1);
+        gives("SHUT from 5 to 9", x.lets(0, 15), 0);
+        gives("SHUT from 5 to 9", x.lets(0, 19), 1);
+        gives("ACCOUNT", x.account(0), 60);
+        gives("ACCOUNT", x.account(1), 18 * 16);
+        badDays("shut r;", 3, 5);
+        badDays("swap a y;", 3, 7);
+        gives("the DAYS", x.live(0), 8);
+        gives("MISSED: the swap, the second pay", x.lived(1), 2);
+        gives("CLOSED", x.told(7), 2);
+        gives("HEAD stays", x.told(0), 24);
+        gives("LOANS", x.told(8), 5);
     }
 
     public static void main(String[] args) {

@@ -369,9 +369,11 @@ public final class BoundaryTexts extends Checks {
         gives("0 is told", x.told(0), 0);
         says("Terms", "1,440 without), it BEGINS in a minute of the day (0 to 1,439; 0 without)");
         valley("span 7 begins 9;", 0);
-        valley("head 1;", 0);
-        gives("SPAN", x.told(1), 1440);
-        gives("BEGINS", x.told(2), 0);
+        for (int k = 0; k < 3; k++) {
+            valley("head 1;", 0);
+            gives("SPAN", x.told(1), 1440);
+            gives("BEGINS", x.told(2), 0);
+        }
         says("Terms", "without: any");
         valley("head 999;reach a loses 0 in 1;field x on a shares 1 needs 0;", 1);
         refused("CARRIES any", x.reach(0, 3), 6);
@@ -500,6 +502,30 @@ public final class BoundaryTexts extends Checks {
         gives("DAYS", x.live(0), 1);
         gives("which were done", x.told(0), 3);
 
+        says("10", "the old one stays");
+        three();
+        String other = "head 9;span 8 begins 7;owner p;reach r loses 0 in 1 shut 1 to 2;field y on r shares 5 needs 6;";
+        badValley(other + "&", 1, other.length());
+        int[] told = {12, 60, 0, 2, 2, 3};
+        for (int what = 0; what < told.length; what++) {
+            gives("told " + what, x.told(what), told[what]);
+        }
+        gives("REACH 0", x.reach(0, 2), 4);
+        refused("never SHUT", x.reach(0, 4), 6);
+        gives("FIELD 0", x.field(0, 2), 90);
+        days("shut up;swap a b;", 2);
+        badDays("shut r;", 3, 5);
+
+        says("10", "in place of that ahead");
+        String twelfths = "reach a loses 0 in 12;";
+        for (char c = 'b'; c < 'k'; c++) {
+            twelfths += "reach " + c + " of " + (char) (c - 1) + " loses 0 in 12;";
+        }
+        for (int k = 0; k < 6; k++) {
+            valley("head 999;" + twelfths + "field x on j shares 9 needs 1;", 1);
+            fraction("again and again", x.water(0), 1438560, 1);
+        }
+
         says("11", "Likewise the DAYS");
         three();
         days("flow 3;pass;", 2);
@@ -590,6 +616,8 @@ public final class BoundaryTexts extends Checks {
 
         says("15", "the OWNER (6: none) (1)");
         three();
+        gives("the REACH", x.field(0, 0), 0);
+        gives("the REACH", x.field(2, 0), 1);
         refused("none", x.field(2, 3), 6);
         gives("OWNER 0 is none of NONE", x.field(0, 3), 0);
         int[][] none = {{-1, 0}, {3, 0}, {0, -1}, {0, 4}, {10, 0}, {MIN, 0}, {MAX, 0}, {0, MIN}, {0, MAX}};

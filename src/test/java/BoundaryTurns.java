@@ -240,6 +240,35 @@ public final class BoundaryTurns extends Checks {
         refused("far above", x.balance(MAX), 1);
     }
 
+    /** Ten REACHES that are SHUT in ten TURNS, and twelve LOANS: as many pieces of a SPAN as there can be. */
+    private static void mostPieces() {
+        StringBuilder text = new StringBuilder("head 9;");
+        for (int k = 0; k < 10; k++) {
+            text.append("reach r").append((char) ('a' + k)).append(" loses 0 in 1 shut ").append(144 * k + 50)
+                    .append(" to ").append(144 * k + 60).append(';');
+        }
+        for (int k = 0; k < 10; k++) {
+            text.append("field x").append((char) ('a' + k)).append(" on r").append((char) ('a' + k))
+                    .append(" shares 1 needs 0;");
+        }
+        valley(text.toString(), 10);
+        for (int k = 0; k < 12; k++) {
+            did("LOAN", x.lend(k % 10, (k + 1) % 10, 1) != NONE);
+        }
+        int all = 0;
+        int open = 0;
+        for (int f = 0; f < 10; f++) {
+            all += x.minutes(f, 0);
+            open += x.minutes(f, 1);
+        }
+        due("all minutes of the SPAN", all, 1440);
+        due("but ten of each TURN", open, 1340);
+        gives("the last minute is borrowed", x.whose(1439), 0);
+        gives("and has water", x.waits(0, 1439), 0);
+        gives("the last of its own", x.waits(9, 1438), 0);
+        gives("DRIEST", x.driest(), 10);
+    }
+
     private static void slots() {
         says("22", "How many SLOTS there are");
         gives("no FIELDS", x.slots(), 0);
@@ -278,6 +307,9 @@ public final class BoundaryTurns extends Checks {
         refused("beyond", x.whose(10), 1);
         refused("far beyond", x.whose(MAX), 1);
         refused("far below", x.whose(MIN), 1);
+
+        says("2", "in each minute in which all REACHES above and its own let through");
+        mostPieces();
 
         says("25", "of these in which all let through (1) (1)");
         shared(10, 1, 1);
@@ -424,6 +456,23 @@ public final class BoundaryTurns extends Checks {
         single("head 12;span 10 begins 0;", "loses 11 in 12", 0);
         fraction("the greatest loss", x.rate(0), 1, 1);
         fraction("the greatest loss", x.lost(0), 110, 1);
+
+        says("2", "REACH by REACH from the head down to its own");
+        StringBuilder chain = new StringBuilder("head 999;span 4 begins 0;reach a loses 1 in 3 carries 990;");
+        for (char c = 'b'; c < 'k'; c++) {
+            chain.append("reach ").append(c).append(" of ").append((char) (c - 1)).append(" loses 1 in 2;");
+        }
+        valley(chain + "field x on j shares 1 needs 0;", 1);
+        fraction("the tenth REACH", x.rate(0), 165, 128);
+        fraction("lost at the first", x.lost(0), 1320, 1);
+        fraction("runs out at the first", x.runsOut(0), 36, 1);
+        fraction("lost at the second", x.lost(1), 1320, 1);
+        fraction("lost at the tenth", x.lost(9), 165, 32);
+        fraction("WATER", x.water(0), 165, 32);
+        gives("below the first", x.below(0), 1);
+        x.close(9, true);
+        fraction("runs out at the tenth", x.runsOut(9), 165, 16);
+        fraction("lost at the first", x.lost(0), 1320, 1);
 
         says("29", "The FRACTION is RATE of a FIELD (1)");
         int[] fields = {-1, 3, 10, MIN, MAX};
@@ -573,6 +622,8 @@ public final class BoundaryTurns extends Checks {
         single("head 3;span 10 begins 0;", "loses 0 in 1 shut 0 to 4", 19);
         gives("SHORT", x.lacking(0), 1);
         gives("SHORT", x.spare(0), 0);
+        single("head 1;span 10 begins 0;", "loses 0 in 1", 3);
+        gives("RATE 1", x.spare(0), 7);
         shared(10, 1, 1);
         x.lend(0, 1, 5);
         gives("none is left", x.spare(0), 0);
@@ -684,6 +735,9 @@ public final class BoundaryTurns extends Checks {
         told("one more", 1, 1);
         x.head(0);
         refused("nothing comes", x.mending(), 6);
+        single("head 1;span 1 begins 0;", "loses 1 in 2", 0);
+        gives("the least that is more", x.mending(), 0);
+        told("half a litre", 1, 2);
         says("3", "CHEAPEST to mend");
         valley("head 9;span 3 begins 0;reach a loses 1 in 3;reach b loses 1 in 3;reach c loses 0 in 1;"
                 + "field w on c shares 1 needs 0;field x on b shares 1 needs 0;field y on a shares 1 needs 0;", 3);
@@ -719,6 +773,7 @@ public final class BoundaryTurns extends Checks {
         x.head(0);
         gives("RATE 0", x.driest(), 10);
         x.head(1);
+        gives("RATE 1", x.driest(), 0);
         x.close(0, true);
         gives("CLOSED", x.driest(), 10);
         String dry = "span 10 begins 0;reach a loses 0 in 1 shut ";
@@ -841,6 +896,10 @@ public final class BoundaryTurns extends Checks {
         x.swap(2, 1);
         gives("the first place", x.bestSwap(0), 1);
         gives("the second place", x.bestSwap(1), 2);
+        valley("head 1;span 2 begins 0;reach a loses 0 in 1 shut 0 to 1;reach b loses 0 in 1;"
+                + "field x on a shares 1 needs 0;field y on b shares 1 needs 0;", 2);
+        gives("the least that is more", x.bestSwap(0), 0);
+        told("a litre", 1, 1);
     }
 
     public static void main(String[] args) {

@@ -242,6 +242,7 @@ public final class Promises extends Checks {
         badValley(r + "field x on a shares 1 needs 1 by a", 3, 54);
         badValley(r + "owner o;field x on a shares 1 needs 1 by x", 3, 62);
 
+        begin("10, 12 FAULTS of a VALLEY");
         badValley("head 1000;", 4, 5);
         badValley("span 0 begins 0;", 4, 5);
         badValley("span 1441 begins 0;", 4, 5);
