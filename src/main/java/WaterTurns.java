@@ -1653,21 +1653,22 @@ public final class WaterTurns {
             days.clear();
             standing.clear();
             standing.head = valley.head;
-            placeBelow(NONE, 0, 0);
+            placeBelow(this, NONE, 0, 0);
         }
 
         /** Puts the FIELDS below a REACH (NONE: the head) in the ORDER from a place on; answers the place behind them. */
-        private int placeBelow(int reach, int place, int depth) {
+        private static int placeBelow(World world, int reach, int place, int depth) {
+            Valley valley = world.valley;
             int next = place;
             for (int f = 0; f < valley.fields; f++) {
                 if (valley.field[f][ON] == reach && next < MOST_FIELDS) {
-                    standing.order[next] = f;
+                    world.standing.order[next] = f;
                     next++;
                 }
             }
             for (int r = 0; r < valley.reaches && depth <= MOST_REACHES; r++) {
                 if (valley.reach[r][OF] == reach) {
-                    next = placeBelow(r, next, depth + 1);
+                    next = placeBelow(world, r, next, depth + 1);
                 }
             }
             return next;
